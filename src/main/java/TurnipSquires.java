@@ -282,8 +282,7 @@ public final class TurnipSquires {
         if (outside(n, 1, 20) || turnip != -1 && !isTurnip(turnip)) {
             return BAD;
         }
-        seer.forgetPairs();
-        seer.tryPairs(0, n);
+        seer.findBestPairs(n);
         return turnip == -1 ? seer.mostRanks : mateToTell(seer.bestMates[turnip]);
     }
 
@@ -600,7 +599,7 @@ public final class TurnipSquires {
                 value = 10 * value + byteAt(at + figures) - '0';
                 figures++;
             }
-            if (figures == 0 || figures == 3) {
+            if (figures == 0 || figures > 2) {
                 return failed(1);
             }
             if (outside(value, least, most)) {
@@ -741,7 +740,7 @@ public final class TurnipSquires {
         }
 
         int gainIn(Field f, int t, boolean frost) {
-            return f.ground + f.higherBeside(t);
+            return f.ground + Integer.bitCount(f.higher[t]);
         }
 
         int mark(Field f, int t, Trace left) {
@@ -777,7 +776,7 @@ public final class TurnipSquires {
         }
 
         int gainIn(Field f, int t, boolean frost) {
-            return f.higherBeside(t) > 0 ? 2 * f.ground : super.gainIn(f, t, frost);
+            return f.higher[t] != 0 ? 2 * f.ground : super.gainIn(f, t, frost);
         }
 
         int size(Field f, int t, Trace left) {
@@ -796,8 +795,10 @@ public final class TurnipSquires {
         final int[] place = new int[TURNIPS];
         /** The turnip in a place: place, read the other way. */
         final int[] at = new int[TURNIPS];
-        /** What findGains found last: no part of what is kept. */
+        // What findGains found last stands in these two: no part of what is kept.
         final int[] gain = new int[TURNIPS];
+        /** On which hands of a turnip one of a higher rank stands: bit 0 down, bit 1 up, as lean tells them. */
+        final int[] higher = new int[TURNIPS];
         int count, year, ground, frost;
 
         /** The kind stands for every turnip until others are read, so that none is ever null. */
@@ -854,6 +855,7 @@ public final class TurnipSquires {
         }
 
         void findGains(boolean withFrost) {
+            findHigher();
             for (int t = 0; t < count; t++) {
                 gain[t] = kind[t].gainIn(this, t, withFrost);
             }
@@ -866,22 +868,24 @@ public final class TurnipSquires {
                 }
             }
             for (int t = 0; t < count; t++) {
-                int towards = lean[t] == 1 ? place[t] + 1 : place[t] - 1;
-                if (isHigher(towards, t)) {
-                    gain[t]++;
-                }
+                gain[t] += higher[t] >> lean[t] & 1;
             }
         }
 
-        int higherBeside(int t) {
-            int below = isHigher(place[t] - 1, t) ? 1 : 0;
-            int above = isHigher(place[t] + 1, t) ? 1 : 0;
-            return below + above;
-        }
-
-        /** Whether there is a turnip in a place, of a rank above that of t. */
-        private boolean isHigher(int inPlace, int t) {
-            return inPlace >= 0 && inPlace < count && rank[at[inPlace]] > rank[t];
+        private void findHigher() {
+            for (int t = 0; t < count; t++) {
+                higher[t] = 0;
+            }
+            for (int p = 0; p + 1 < count; p++) {
+                int one = at[p];
+                int next = at[p + 1];
+                if (rank[one] > rank[next]) {
+                    higher[next] |= 1;
+                }
+                if (rank[next] > rank[one]) {
+                    higher[one] |= 2;
+                }
+            }
         }
 
         void exchange(int one, int other) {
@@ -1004,16 +1008,18 @@ public final class TurnipSquires {
             return NOBODY;
         }
 
-        void forgetPairs() {
+        /** The ways of the best stay in bestMates; mostRanks tells how much comes of them. */
+        void findBestPairs(int n) {
             Arrays.fill(mates, NOBODY);
             mostRanks = -1;
+            tryPairs(0, n);
         }
 
         /**
          * Marries those from a turnip on in every way, in the order in which the first of the best counts;
          * it goes no deeper than there are turnips.
          */
-        void tryPairs(int from, int n) {
+        private void tryPairs(int from, int n) {
             if (from >= now.count || from >= TURNIPS) {
                 weighPairs(n);
                 return;

@@ -281,6 +281,8 @@ public final class PromisesTest {
         faulty("g0,6;t1,5,1;", 1, 2);
         faulty("g10,6;t1,5,1;", 1, 2);
         faulty("g004,6;t1,5,1;", 1, 1);
+        faulty("g0004,6;t1,5,1;", 1, 1);
+        faulty("g00000004,6;t1,5,1;", 1, 1);
         faulty("g 4,6;t1,5,1;", 1, 1);
         faulty("g4;6;", 2, 1);
         faulty("g4,16;", 3, 2);
@@ -296,6 +298,7 @@ public final class PromisesTest {
         faulty(law + "tt", 6, 1);
         faulty(law + "t10,5,1;", 6, 2);
         faulty(law + "t100,5,1;", 6, 1);
+        faulty(law + "t0001,5,1;", 6, 1);
         faulty(law + "t1", 7, 1);
         faulty(law + "t1;", 7, 1);
         faulty(law + "t1,10,1;", 8, 2);
