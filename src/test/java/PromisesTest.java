@@ -585,6 +585,7 @@ public final class PromisesTest {
         dueAll("none", all(NONE, NONE), z.squire(0), z.squire(1));
         TurnipSquires w = with("g1,0;t8,9,0;f9,0,0;t9,0,0;");
         dueAll("already", all(1, 0), w.squire(0), w.squire(1));
+        dueAll("the first", all(0, 9), with("g9,0;t1,0,0;t0,0,1;").squire(0), with("g9,0;t1,0,0;t0,0,1;").squire(1));
         dueAll("wrong ones", all(BAD, BAD), w.squire(-1), w.squire(2));
     }
 
@@ -601,6 +602,7 @@ public final class PromisesTest {
         dueAll("whoever is married now", all(8, 1, 0, NONE), y.pairs(1, -1), y.pairs(1, 0), y.pairs(1, 1),
                 y.pairs(1, 2));
         dueAll("nothing changes", all(2, 0, 1), y.turnip(0, 4), y.count(2), y.count(7));
+        dueAll("more years, then fewer", all(10, 8), y.pairs(3, -1), y.pairs(1, -1));
         TurnipSquires z = with("g5,0;f3,5,0;f0,5,0;f0,5,0;f3,5,0;");
         dueAll("two pairs", all(10, 1, 0, 3, 2), z.pairs(1, -1), z.pairs(1, 0), z.pairs(1, 1), z.pairs(1, 2),
                 z.pairs(1, 3));
@@ -618,6 +620,8 @@ public final class PromisesTest {
         x.swap(1, 3);
         dueAll("by turnips, not by places", all(1, 3), x.change(1, 0), x.change(1, 1));
         dueAll("nothing changes", all(0, 3, 1), x.place(0), x.place(1), x.count(7));
+        TurnipSquires u = with("g4,0;t0,0,0;t0,0,0;t1,0,0;t0,0,0;t1,0,1;p0,3,1;");
+        dueAll("3 with 5", all(35, 3), u.change(1, 0), u.change(1, 1));
         TurnipSquires y = with("g4,0;t0,0,0;t0,0,0;t0,0,0;");
         dueAll("the first of like ones", all(1, 3), y.change(3, 0), y.change(3, 1));
         dueAll("the longest", all(1, 27), y.change(30, 0), y.change(30, 1));
@@ -671,6 +675,9 @@ public final class PromisesTest {
         dueAll("grown 6 to 9", all(64 + 128 + 256 + 512, 6), x.fits(0, 0, 1, 1, 1), x.turnip(0, 1));
         dueAll("ground 4 to 9", all(16 + 32 + 64 + 128 + 256 + 512, 4), x.fits(0, 0, 1, 1, 2), x.count(3));
         dueAll("any frost", all(65535, 6), x.fits(0, 0, 1, 1, 3), x.count(4));
+        setAll(x, 3, 0, 1);
+        dueAll("grown 2 to 5, so that it comes to 10 by the second year", all(4 + 8 + 16 + 32), x.fits(0, 3, 0, 2, 1));
+        dueAll("grown 0 to 5", all(63), x.fits(0, 3, 0, 1, 1));
         dueAll("none, by its first item", all(0, 0, 0, 0), x.fits(0, 0, 0, 2, 0), x.fits(0, 0, 0, 2, 1),
                 x.fits(0, 0, 0, 2, 2), x.fits(0, 0, 0, 2, 3));
         // By ground 4 it has 10, 14, 18 and no rank 2; by 5 it has 11, 16, 21, by 7 already 20 in the second year.
@@ -713,6 +720,7 @@ public final class PromisesTest {
         // Of 4 it lacks three are sure in three years: 1 less 7 by 10 thrice; then 1 less 6 by 10 thrice.
         dueAll("three years", all(657, 1000, 98, 125), y.chance(0, 1, 3, 3, 0), y.chance(0, 1, 3, 3, 1),
                 y.chance(0, 1, 3, 4, 0), y.chance(0, 1, 3, 4, 1));
+        dueAll("all but one in a thousand", all(999, 1000), y.chance(0, 1, 3, 9, 0), y.chance(0, 1, 3, 9, 1));
         // Two of eight at least: 1 less 0.9 to the power of 8, less 8 times 0.1 times 0.9 to the power of 7.
         dueAll("eight years", all(18689527, 100000000), y.chance(1, 1, 8, 1, 0), y.chance(1, 1, 8, 1, 1));
         dueAll("nothing changes", all(0, 0, 6), y.count(2), y.count(7), y.turnip(0, 1));
