@@ -608,6 +608,8 @@ public final class PromisesTest {
                 z.pairs(1, 3));
         dueAll("wrong ones", all(BAD, BAD, BAD, BAD, BAD), z.pairs(0, -1), z.pairs(21, -1), z.pairs(1, -2),
                 z.pairs(1, 4), z.pairs(LEAST, MOST));
+        TurnipSquires v = with("g1,0;t0,0,0;t0,0,0;");
+        dueAll("no ranks at all", all(0, NONE, NONE), v.pairs(1, -1), v.pairs(1, 0), v.pairs(1, 1));
         TurnipSquires w = with("g1,0;t0,0,0;");
         dueAll("of one", all(2, NONE), w.pairs(20, -1), w.pairs(20, 0));
     }
@@ -629,6 +631,8 @@ public final class PromisesTest {
                 y.change(1, 2));
         TurnipSquires z = with("g4,0;t0,0,0;");
         dueAll("not two", all(NONE, NONE, BAD, BAD), z.change(1, 0), z.change(30, 1), z.change(31, 0), z.change(1, 2));
+        TurnipSquires t = with("g1,0;t0,0,0;t0,0,0;");
+        dueAll("no ranks at all", all(1, 0), t.change(1, 0), t.change(1, 1));
         // The purple one would rise if all stayed.
         TurnipSquires w = with("g4,0;t9,0,0;p0,4,0;");
         dueAll("two change, though it is a loss", all(1, 9), w.change(1, 0), w.change(1, 1));
