@@ -18,6 +18,7 @@ public final class TermEdgesTest {
         theEighthTurnip();
         firstFaultFirst();
         fieldsAnew();
+        theFullestField();
         halves();
         above();
         leaners();
@@ -25,6 +26,7 @@ public final class TermEdgesTest {
         frosts();
         growing();
         actsKept();
+        parted();
         actsOfEachSort();
         images();
         squires();
@@ -34,6 +36,7 @@ public final class TermEdgesTest {
         fractions();
         centuries();
         asks();
+        traces();
         Run.end();
     }
 
@@ -284,6 +287,22 @@ public final class TermEdgesTest {
         run.due(23, "trace 0").due(1, "status").due(STATE, "restore 1").due(1, "restore 0").due(5, "count 2").due(2, "count 6");
     }
 
+    /** All is asked of the most turnips that there can be, and then of fewer in their place. */
+    private static void theFullestField() {
+        Run run = new Run("read g1,0;" + "t8,0,0;".repeat(6) + "t8,9,0;").due(6, "squire 0").due(1, "squire 1").due(56, "count 5");
+        run.due(1, "risen 6 9").due(10, "risen 5 9").due(57, "pairs 1 -1").due(57, "change 1 1").due(20, "power 6");
+        run.due(4, "blocs 0").due(15, "blocs 1").due(1, "chance 6 9 1 5 0").due(6, "place 6").due(6, "as 6 1");
+        run.due(12, "ask 6 1").due(20, "ask 6 0");
+        // Grounds 5 and 8, and none stands above another.
+        Run low = new Run("read g1,0;" + "t0,0,0;".repeat(7)).due(35, "drawn 1 1 1").due(0, "drawn 1 1 0");
+        low.due(21, "drawn 2 1 1").due(7, "drawn 2 1 0").due(63, "drawn 60 1 0").due(63, "drawn 60 1 1");
+        low.due(2, "marry 0 6").due(4, "marry 1 5").due(6, "marry 2 4").due(6, "count 6").due(7, "drawn 2 1 0");
+        Run fewer = new Run("read g1,0;" + "t9,9,0;".repeat(7), "marry 0 6", "marry 1 2", "read g1,0;t0,0,0;t1,0,0;");
+        fewer.due(1, "count 5").due(0, "count 6").due(NONE, "squire 0").due(1, "blocs 0").due(2, "blocs 1").due(2, "power 1");
+        fewer.due(0, "power 0").due(1, "pairs 1 -1").due(1, "change 1 1").due(10, "drawn 1 1 1").due(1, "drawn 1 1 0");
+        fewer.due(1, "turnip 0 5").due(1, "turnip 1 5").dueEach(Run.BAD, "turnip _ 0", 2, 3, 6).dueEach(Run.BAD, "place _", 2, 6);
+    }
+
     private static void halves() {
         int[] half = {0, 0, 1, 1, 2, 2, 3, 3, 4, 4};
         for (int ground = 1; ground <= 9; ground++) {
@@ -431,6 +450,16 @@ public final class TermEdgesTest {
             many.due(i, "undo").due(i, "count 2");
         }
         many.due(STATE, "undo").due(5, "count 3");
+    }
+
+    private static void parted() {
+        Run run = new Run("read g1,0;" + "t0,0,0;".repeat(7));
+        run.due(2, "marry 0 6").due(4, "marry 5 1").due(6, "marry 2 4").due(6, "count 6").dueEach(STATE, "marry 3 _", 0, 1, 2, 4, 5, 6);
+        // Parted by either, both are free: of one another, and for others.
+        run.due(0, "part 6").due(NONE, "turnip 6 4").due(NONE, "turnip 0 4").due(4, "count 6").dueEach(STATE, "part _", 0, 3, 6);
+        run.due(1, "part 5").due(NONE, "turnip 5 4").due(NONE, "turnip 1 4").due(2, "count 6").dueEach(STATE, "part _", 1, 5);
+        run.due(4, "turnip 2 4").due(2, "turnip 4 4").due(4, "marry 1 0").due(6, "marry 6 3").due(NONE, "turnip 5 4");
+        run.due(7, "count 7").due(6, "undo").due(5, "undo").due(2, "count 6").due(4, "undo").due(1, "turnip 5 4").due(5, "turnip 1 4");
     }
 
     /** Each act and what is behind its undoing; what is refused is none. */
@@ -599,5 +628,27 @@ public final class TermEdgesTest {
         run.due(13, "trace 0").due(10, "trace 1").due(0, "status");
         // Nor does a field that is read.
         run.due(1, "read g1,0;t0,0,0;").due(13, "trace 0").due(0, "ask 0 0").due(11, "trace 0").due(NONE, "trace 4");
+    }
+
+    private static void trace(Run run, String ask, int... want) {
+        run.make(ask);
+        for (int i = -1; i <= 16; i++) {
+            run.due(i >= 0 && i < want.length ? want[i] : NONE, "trace " + i);
+        }
+    }
+
+    /** Each body that begins, in the order in which they begin; the longest are far from 16. */
+    private static void traces() {
+        Run run = new Run(Run.FIVE).dueEach(NONE, "trace _", -1, 0, 15, 16);
+        trace(run, "ask 0 0", 11, 10, 21, 20);
+        trace(run, "ask 1 0", 12, 11, 10, 24, 21, 20);
+        trace(run, "ask 2 0", 11, 10, 22, 21, 20);
+        trace(run, "ask 3 0", 13, 10);
+        trace(run, "ask 4 0", 14, 13, 10);
+        trace(run, "ask 0 1", 21, 20);
+        trace(run, "ask 1 1", 24, 21, 20);
+        trace(run, "ask 2 1", 22, 21, 20);
+        trace(run, "ask 3 1", 23, 20, 13, 10);
+        trace(run, "ask 4 1", 23, 20, 14, 13, 10);
     }
 }
